@@ -168,6 +168,12 @@ public final class ActsTest {
         CHECK.due("13: weight 1", x.client(1, 0), 3);
         CHECK.due("13: earned", x.count(5), 0);
         CHECK.due("13: none", x.undo(), WakeLet.STATE);
+        x.let(1, 5);
+        x.let(1, 0);
+        x.undo();
+        CHECK.due("13: to nobody again", x.waker(1, 2), 5);
+        x.undo();
+        CHECK.due("13: to the second again", x.waker(1, 2), 1);
         forgetting(x);
     }
 

@@ -150,6 +150,19 @@ public final class ForetoldTest {
         CHECK.due("23: behind 2", y.fewest(1, 2, -1), 1);
         CHECK.due("23: behind just 3", y.fewest(1, 3, -1), WakeLet.NONE);
         CHECK.due("23: behind 4", y.fewest(1, 4, -1), 1);
+        oneStandsInForTheOther();
+    }
+
+    /** A guard and a clerk lie off in different nights: both are needed for one worry. */
+    private static void oneStandsInForTheOther() {
+        WakeLet x = Check.open("l0,0;w20,1;g5,1,5;c5,1,5;");
+        CHECK.due("23: both", x.fewest(1, 4, -1), 2);
+        CHECK.due("23: the guard", x.fewest(1, 4, 0), 0);
+        CHECK.due("23: the clerk", x.fewest(1, 4, 1), 0);
+        CHECK.due("22: both", x.best(4, -1), 1);
+        CHECK.due("22: together", x.best(4, -2), 0);
+        CHECK.due("22: the clerk", x.best(4, 1), 0);
+        CHECK.due("22: behind 3 least", x.best(3, -2), 5);
     }
 
     private static void withoutWakers() {

@@ -39,6 +39,8 @@ public final class GuessesTest {
         CHECK.due("24: nor whose he is", x.waker(0, 2), 0);
         CHECK.due("24: nor what fits", x.waker(0, 1), 1);
         x.row(3, 2, 40);
+        x.row(7, 0, 1);
+        CHECK.due("24: the last row", x.fits(0, 7, 0, 1, 0), 0b100010);
         CHECK.due("24: 16 nights", x.fits(0, 3, 24, 16, 0), 0b100000);
     }
 
@@ -155,6 +157,7 @@ public final class GuessesTest {
         CHECK.due("28: moon", x.earned(0, 4), 24);
         x.nights(1);
         CHECK.due("28: again", x.restore(1), 1);
+        CHECK.due("28: no acts again", x.count(6), 0);
         CHECK.due("28: as kept", x.count(3), 3);
         CHECK.due("28: the other", x.restore(0), 1);
         CHECK.due("28: its night", x.count(3), 7);

@@ -51,6 +51,22 @@ public final class RowsTest {
         x.set(6, 39, 9);
         CHECK.due("2: zeroes come", x.copy(7, 0, 6, 0, 40), 40);
         CHECK.due("2: still", x.count(0), 3);
+        zeroesAtFirst();
+    }
+
+    private static void zeroesAtFirst() {
+        WakeLet x = Check.open("l0,0;w1,0;o0,0,5;");
+        for (int lane = 0; lane <= 2; lane++) {
+            x.row(0, lane, 40);
+            for (int i = 0; i < 40; i++) {
+                x.set(0, i, 1);
+            }
+            CHECK.due("2: one lit", x.fits(0, 0, 0, 1, 0), 0);
+            x.row(0, lane, 40);
+            CHECK.due("2: dark from 0", x.fits(0, 0, 0, 16, 0), 33);
+            CHECK.due("2: dark from 16", x.fits(0, 0, 16, 16, 0), 33);
+            CHECK.due("2: dark to 40", x.fits(0, 0, 24, 16, 0), 33);
+        }
     }
 
     private static void sets() {
@@ -112,6 +128,13 @@ public final class RowsTest {
         CHECK.due("4: null there", x.copy(2, -1, 3, 0, 1), NULL);
         CHECK.due("4: bad before null", x.copy(3, 0, 8, 0, 1), WakeLet.BAD);
         CHECK.due("4: bad first", x.copy(-1, 0, 3, 0, 1), WakeLet.BAD);
+        CHECK.due("4: bad first, above", x.copy(8, 0, 0, 0, 0), WakeLet.BAD);
+        CHECK.due("4: bad second, below", x.copy(0, 0, -1, 0, 0), WakeLet.BAD);
+        x.row(7, 2, 8);
+        CHECK.due("4: from the last row", x.copy(7, 0, 1, 6, 2), 2);
+        CHECK.due("4: into the last row", x.copy(0, 0, 7, 6, 2), 2);
+        CHECK.due("4: two are dark", x.fits(0, 1, 6, 1, 0), 0);
+        CHECK.due("4: two are lit", x.fits(0, 7, 6, 2, 0), 33);
     }
 
     private static void drops() {
@@ -126,6 +149,10 @@ public final class RowsTest {
         CHECK.due("5: -1", x.drop(-1), WakeLet.BAD);
         CHECK.due("5: 8", x.drop(8), WakeLet.BAD);
         CHECK.due("5: missing", x.set(4, 0, 1), NULL);
+        x.row(0, 0, 2);
+        x.row(7, 0, 3);
+        CHECK.due("5: the first", x.drop(0), 2);
+        CHECK.due("5: the last", x.drop(7), 3);
     }
 
     private static void status() {

@@ -48,6 +48,7 @@ public final class TextsTest {
         x.nights(3);
         x.grow(0, 1);
         CHECK.due("7: acts ahead", x.count(6), 4);
+        CHECK.due("7: foretold ahead", x.earned(0, 7), 5 * 10);
         CHECK.due("7: again", Check.read(x, "l9,3;w10,1;w9,1;o5,1,0;"), 2);
         CHECK.due("7: night 0", x.count(3), 0);
         CHECK.due("7: nothing earned", x.count(5), 0);
