@@ -1,237 +1,346 @@
-/** Promises 9 to 15. */
-public final class ActsTest {
-    private static final Check CHECK = new Check("ActsTest");
-
+/** Promises 10 to 13. */
+public final class ActsTest extends Sentences {
     public static void main(String[] args) {
-        lying();
-        nights();
-        lets();
-        grows();
-        learns();
-        undos();
-        clients();
-        wakers();
-        CHECK.end();
+        run(ActsTest.class);
     }
 
-    /** How long one lies in each of the nights 0 on, by a text whose waker 0 he is. */
-    private static void lies(String text, int... hours) {
-        WakeLet x = Check.open(text);
-        int earned = 0;
-        for (int t = 0; t < hours.length; t++) {
-            CHECK.due("15: " + text + " in night " + t, x.waker(0, 3), hours[t]);
-            x.nights(1);
-            earned += hours[t];
-            CHECK.due("9: " + text + " has earned behind " + t, x.waker(0, 4), earned);
+    // ---- 10: let
+
+    static void promise10WakersAreThoseThereAre() {
+        WakeLet x = open("l5,0;w9,1;o9,1,5;o9,1,5;");
+        due("-1", x.let(-1, 0), BAD);
+        due("0", x.let(0, 0), 5);
+        due("1", x.let(1, 0), 5);
+        due("2", x.let(2, 0), BAD);
+        due("the least", x.let(MIN, 0), BAD);
+        due("the most", x.let(MAX, 0), BAD);
+        WakeLet y = open("l5,0;w9,1;o9,1,5;o9,1,5;o9,1,5;o9,1,5;");
+        due("3", y.let(3, 0), 5);
+        due("4", y.let(4, 0), BAD);
+        due("none there", open("l5,0;w9,1;").let(0, 5), BAD);
+    }
+
+    static void promise10ClientsAreThoseThereAreAndNobody() {
+        for (int clients = 1; clients <= 5; clients++) {
+            WakeLet x = open("l5,0;" + "w9,1;".repeat(clients) + "o9,1,5;");
+            for (int c = 0; c <= 4; c++) {
+                due(c + " of " + clients, x.let(0, c), c >= clients ? BAD : c == 0 ? 5 : c - 1);
+            }
+            due("nobody of " + clients, x.let(0, 5), clients - 1);
+            due("6 of " + clients, x.let(0, 6), BAD);
+            due("-1 of " + clients, x.let(0, -1), BAD);
+            due("the least of " + clients, x.let(0, MIN), BAD);
+            due("the most of " + clients, x.let(0, MAX), BAD);
+            due("acts of " + clients, x.count(6), clients + 1);
         }
     }
 
-    private static void lying() {
-        lies("l0,2;w40,1;o7,1,0;", 7, 7, 7, 7, 7, 7, 7, 7, 7, 7);
-        lies("l0,2;w40,1;o7,2,0;", 7, 7, 7);
-        lies("l0,2;w40,1;o7,1,5;", 0, 0, 0);
-        lies("l0,2;w40,1;c7,1,0;", 7, 7, 0, 7, 7, 7, 7, 7, 7, 0, 7);
-        lies("l0,0;w40,1;c7,1,0;", 0, 7, 7, 7, 7, 7, 7, 0, 7);
-        lies("l0,2;w40,1;c7,1,5;", 0, 0, 0);
-        lies("l0,2;w40,1;m7,1,0;", 14, 14, 14, 14);
-        lies("l0,2;w40,1;m7,2,0;", 7, 7, 7, 7);
-        lies("l0,2;w40,1;m7,1,5;", 0, 0, 0);
-        lies("l0,2;w40,1;g7,1,0;", 7, 7, 0, 7, 7, 0, 7, 7, 0);
-        lies("l0,2;w40,1;g7,1,5;", 0, 0, 0);
-        lies("l0,2;w40,1;n3,1,0;", 3, 3, 1, 4, 5, 2, 6, 6, 4, 7, 8, 5, 9, 9, 7, 9, 9, 8, 9, 9, 9, 9, 9, 9);
-        lies("l0,2;w40,1;n9,1,0;", 9, 9, 1, 9, 9, 2);
-        lies("l0,2;w40,1;n0,1,0;", 0, 0, 1, 1, 2, 2, 3);
-        lies("l0,2;w40,1;n3,1,5;", 0, 0, 0, 0);
+    static void promise10WhatIsSoAlreadyIsState() {
+        WakeLet x = open("l5,0;w20,1;w1,2;o9,1,0;o9,1,5;");
+        due("to 0", x.let(0, 0), STATE);
+        due("to nobody", x.let(1, 5), STATE);
+        due("no act", x.count(6), 0);
+        due("to 1", x.let(0, 1), 0);
+        due("to 1 again", x.let(0, 1), STATE);
+        due("one act", x.count(6), 1);
+        due("as it was", x.waker(0, 2), 1);
     }
 
-    private static void nights() {
+    static void promise10HeIsLetFromNowOn() {
+        WakeLet x = open("l5,0;w20,1;w20,2;o9,1,0;");
+        due("to 1", x.let(0, 1), 0);
+        due("so", x.waker(0, 2), 1);
+        due("wakers of 0", x.client(0, 3), 0);
+        due("wakers of 1", x.client(1, 3), 1);
+        x.nights(1);
+        due("0 is heavier", x.client(0, 0), 21);
+        due("1 is lighter", x.client(1, 0), 16);
+        due("to nobody", x.let(0, 5), 1);
+        x.nights(1);
+        due("1 is heavier", x.client(1, 0), 17);
+    }
+
+    static void promise10WhatIsRefusedLeavesAll() {
+        WakeLet x = open("l5,0;w20,1;w1,2;o9,1,0;");
+        x.let(0, 2);
+        x.let(0, 6);
+        x.let(1, 0);
+        x.let(0, 0);
+        due("to whom", x.waker(0, 2), 0);
+        due("acts", x.count(6), 0);
+    }
+
+    // ---- 11: grow
+
+    static void promise11ClientsAreThoseThereAre() {
+        WakeLet x = open("l5,0;w9,1;w9,1;");
+        due("-1", x.grow(-1, 1), BAD);
+        due("0", x.grow(0, 1), 10);
+        due("1", x.grow(1, 1), 10);
+        due("2", x.grow(2, 1), BAD);
+        due("the least", x.grow(MIN, 1), BAD);
+        due("the most", x.grow(MAX, 1), BAD);
+        WakeLet y = open("l5,0;w9,1;w9,1;w9,1;w9,1;w9,1;");
+        due("4", y.grow(4, 1), 10);
+        due("5", y.grow(5, 1), BAD);
+    }
+
+    static void promise11ByOneToTwenty() {
+        WakeLet x = open("l5,0;w9,1;");
+        due("0", x.grow(0, 0), BAD);
+        due("-1", x.grow(0, -1), BAD);
+        due("21", x.grow(0, 21), BAD);
+        due("the least", x.grow(0, MIN), BAD);
+        due("the most", x.grow(0, MAX), BAD);
+        due("as it was", x.client(0, 0), 9);
+        due("1", x.grow(0, 1), 10);
+        due("20", x.grow(0, 20), 30);
+    }
+
+    static void promise11AWeightIs99AtMost() {
+        WakeLet x = open("l5,0;w40,1;w40,1;w40,1;");
+        for (int c = 0; c <= 2; c++) {
+            x.grow(c, 20);
+            x.grow(c, 18 + c);
+        }
+        due("79", x.client(1, 0), 79);
+        due("78 by 20", x.grow(0, 20), 98);
+        due("79 by 20", x.grow(1, 20), 99);
+        due("80 by 20", x.grow(2, 20), 99);
+        due("98 by 1", x.grow(0, 1), 99);
+        due("99 by 1", x.grow(0, 1), 99);
+        due("99 by 20", x.grow(0, 20), 99);
+    }
+
+    static void promise11AWorryOf0GrowsToo() {
+        WakeLet x = open("l0,0;w0,1;");
+        due("rests", x.count(4), 1);
+        due("1", x.grow(0, 1), 1);
+        due("no more", x.count(4), 0);
+    }
+
+    static void promise11ItIsAnActEvenAt99() {
+        WakeLet x = open("l5,0;w40,1;w3,1;");
+        x.grow(0, 20);
+        x.grow(0, 20);
+        x.grow(0, 20);
+        x.grow(0, 1);
+        due("acts", x.count(6), 4);
+        due("undone", x.undo(), 3);
+        due("99", x.client(0, 0), 99);
+        due("undone", x.undo(), 2);
+        due("80", x.client(0, 0), 80);
+        due("the other stays", x.client(1, 0), 3);
+    }
+
+    static void promise11WhatIsRefusedIsNoAct() {
+        WakeLet x = open("l5,0;w40,1;");
+        x.grow(0, 0);
+        x.grow(0, 21);
+        x.grow(1, 1);
+        due("acts", x.count(6), 0);
+        due("weight", x.client(0, 0), 40);
+    }
+
+    // ---- 12: learn
+
+    static void promise12WakersAreThoseThereAre() {
+        WakeLet x = open("l5,0;w9,1;o9,1,5;o9,2,5;");
+        due("-1", x.learn(-1, 0), BAD);
+        due("0", x.learn(0, 0), 1);
+        due("1", x.learn(1, 0), 2);
+        due("2", x.learn(2, 0), BAD);
+        due("the least", x.learn(MIN, 0), BAD);
+        due("the most", x.learn(MAX, 0), BAD);
+        WakeLet y = open("l5,0;w9,1;o9,1,5;o9,1,5;o9,1,5;o9,4,5;");
+        due("3", y.learn(3, 0), 4);
+        due("4", y.learn(4, 0), BAD);
+        due("none there", open("l5,0;w9,1;").learn(0, 0), BAD);
+    }
+
+    static void promise12WorriesAre0To5() {
+        WakeLet x = open("l5,0;w9,1;o9,1,0;");
+        due("-1", x.learn(0, -1), BAD);
+        due("6", x.learn(0, 6), BAD);
+        due("the least", x.learn(0, MIN), BAD);
+        due("the most", x.learn(0, MAX), BAD);
+        due("as it was", x.waker(0, 1), 1);
+        due("no act", x.count(6), 0);
+        due("0", x.learn(0, 0), 1);
+        due("5", x.learn(0, 5), 0);
+        due("then", x.waker(0, 1), 5);
+    }
+
+    static void promise12WhatFitsAlreadyIsLearntToo() {
+        WakeLet x = open("l5,0;w9,1;o9,1,0;");
+        due("1", x.learn(0, 1), 1);
+        due("an act", x.count(6), 1);
+    }
+
+    static void promise12ItFitsFromNowOn() {
+        WakeLet x = open("l5,0;w40,1;m4,2,0;m4,2,0;");
+        due("ahead", x.client(0, 4), 2);
+        due("to 1", x.learn(0, 1), 2);
+        due("then", x.client(0, 4), 8);
+        due("she lies twice", x.waker(0, 3), 8);
+        due("the other stays", x.waker(1, 1), 2);
+        due("the other lies", x.waker(1, 3), 4);
+    }
+
+    // ---- 13: undo
+
+    static void promise13WithoutAnActItIsState() {
         WakeLet x = new WakeLet();
-        CHECK.due("9: state before bad", x.nights(0), WakeLet.STATE);
-        Check.read(x, "l5,0;w20,1;w1,2;w0,3;w10,4;o9,1,0;o9,1,0;m4,4,3;o1,0,1;");
-        CHECK.due("9: 0", x.nights(0), WakeLet.BAD);
-        CHECK.due("9: -1", x.nights(-1), WakeLet.BAD);
-        CHECK.due("9: 25", x.nights(25), WakeLet.BAD);
-        CHECK.due("9: one", x.nights(1), 0b1110);
-        CHECK.due("9: by the one who takes most alone", x.client(0, 0), 11);
-        CHECK.due("9: half of 1 is nothing", x.client(1, 0), 2);
-        CHECK.due("9: 0 stays", x.client(2, 0), 0);
-        CHECK.due("9: a mother's worry", x.client(3, 0), 2);
-        CHECK.due("9: all earn", x.count(5), 9 + 9 + 8 + 1);
-        CHECK.due("9: night", x.count(3), 1);
-        CHECK.due("9: more", x.nights(2), 0b1111);
-        CHECK.due("9: cut at 0", x.client(0, 0), 0);
-        CHECK.due("9: acts", x.count(6), 3);
-        atTheEnds();
+        due("no agency", x.undo(), STATE);
+        read(x, "l5,3;w40,1;o5,1,0;");
+        due("none yet", x.undo(), STATE);
+        x.nights(1);
+        due("one", x.undo(), 0);
+        due("none left", x.undo(), STATE);
+        due("as it was", x.client(0, 0), 40);
     }
 
-    private static void atTheEnds() {
-        WakeLet x = Check.open("l20,0;w40,0;w20,0;o9,1,1;");
-        for (int k = 0; k < 41; k++) {
-            x.nights(24);
-        }
-        CHECK.due("9: 99 at most", x.client(0, 0), 99);
-        CHECK.due("9: night 984", x.count(3), 984);
-        CHECK.due("9: 1000", x.nights(16), WakeLet.FULL);
-        CHECK.due("9: nothing changed", x.count(3), 984);
-        CHECK.due("9: bad before full", x.nights(25), WakeLet.BAD);
-        CHECK.due("9: 999", x.nights(15), 2);
-        CHECK.due("9: there", x.count(3), 999);
-        CHECK.due("9: no more", x.nights(1), WakeLet.FULL);
-        CHECK.due("9: acts kept", x.count(6), 24);
-        CHECK.due("9: earned", x.count(5), 999 * 9);
-        CHECK.due("16: foretold beyond", x.weight(1, 60), 0);
-        CHECK.due("17: foretold beyond", x.earned(0, 60), 1059 * 9);
-        CHECK.due("13: one back", x.undo(), 23);
-        CHECK.due("13: night", x.count(3), 998);
-        CHECK.due("9: and on", x.nights(1), 2);
-        WakeLet y = Check.open("l5,0;w0,0;w6,0;o9,0,1;");
-        CHECK.due("9: bears just", y.client(0, 2), 1);
-        CHECK.due("9: bears not", y.client(1, 2), 0);
-        y.learn(0, 1);
-        y.let(0, 0);
-        CHECK.due("9: 0 less is 0", y.nights(1), 1);
-        CHECK.due("9: alone it grows", y.client(1, 0), 7);
-    }
-
-    private static void lets() {
-        WakeLet x = Check.open("l5,0;w20,1;w1,2;o9,1,0;o9,1,5;");
-        CHECK.due("10: to 1", x.let(0, 1), 0);
-        CHECK.due("10: so", x.waker(0, 2), 1);
-        CHECK.due("10: again", x.let(0, 1), WakeLet.STATE);
-        CHECK.due("10: to nobody", x.let(0, 5), 1);
-        CHECK.due("10: nobody again", x.let(1, 5), WakeLet.STATE);
-        CHECK.due("10: from nobody", x.let(1, 0), 5);
-        CHECK.due("10: acts", x.count(6), 3);
-        CHECK.due("10: no client 2", x.let(0, 2), WakeLet.BAD);
-        CHECK.due("10: no client 4", x.let(0, 4), WakeLet.BAD);
-        CHECK.due("10: 6", x.let(0, 6), WakeLet.BAD);
-        CHECK.due("10: -1", x.let(0, -1), WakeLet.BAD);
-        CHECK.due("10: no waker 2", x.let(2, 0), WakeLet.BAD);
-        CHECK.due("10: no waker -1", x.let(-1, 0), WakeLet.BAD);
-        CHECK.due("10: no agency", new WakeLet().let(0, 5), WakeLet.BAD);
-        CHECK.due("10: refusals are no acts", x.count(6), 3);
-    }
-
-    private static void grows() {
-        WakeLet x = Check.open("l5,0;w40,1;w0,2;");
-        CHECK.due("11: by 20", x.grow(0, 20), 60);
-        CHECK.due("11: by 20", x.grow(0, 20), 80);
-        CHECK.due("11: 99 at most", x.grow(0, 20), 99);
-        CHECK.due("11: at most, again", x.grow(0, 1), 99);
-        CHECK.due("11: from 0", x.grow(1, 1), 1);
-        CHECK.due("11: acts", x.count(6), 5);
-        CHECK.due("11: 0", x.grow(0, 0), WakeLet.BAD);
-        CHECK.due("11: 21", x.grow(0, 21), WakeLet.BAD);
-        CHECK.due("11: no client 2", x.grow(2, 1), WakeLet.BAD);
-        CHECK.due("11: no client -1", x.grow(-1, 1), WakeLet.BAD);
-        x.undo();
-        x.undo();
-        x.undo();
-        CHECK.due("13: as it was", x.client(0, 0), 80);
-    }
-
-    private static void learns() {
-        WakeLet x = Check.open("l5,0;w40,1;m4,2,0;");
-        CHECK.due("12: ahead", x.client(0, 4), 2);
-        CHECK.due("12: to 1", x.learn(0, 1), 2);
-        CHECK.due("12: then", x.client(0, 4), 8);
-        CHECK.due("12: the same", x.learn(0, 1), 1);
-        CHECK.due("12: to 5", x.learn(0, 5), 1);
-        CHECK.due("12: to 0", x.learn(0, 0), 5);
-        CHECK.due("12: acts", x.count(6), 4);
-        CHECK.due("12: 6", x.learn(0, 6), WakeLet.BAD);
-        CHECK.due("12: -1", x.learn(0, -1), WakeLet.BAD);
-        CHECK.due("12: no waker 1", x.learn(1, 0), WakeLet.BAD);
-        CHECK.due("12: no waker -1", x.learn(-1, 0), WakeLet.BAD);
-    }
-
-    private static void undos() {
-        WakeLet x = Check.open("l5,3;w40,1;w3,2;o5,1,0;n4,2,1;");
+    static void promise13TheLatestIsUndoneFirst() {
+        WakeLet x = open("l5,3;w40,1;w3,2;o5,1,0;n4,2,1;");
         x.nights(2);
         x.let(0, 1);
         x.grow(1, 7);
         x.learn(1, 4);
         x.nights(1);
-        CHECK.due("13: night", x.undo(), 5);
-        CHECK.due("13: night is", x.count(3), 2);
-        CHECK.due("13: earned is", x.waker(1, 4), 8);
-        CHECK.due("13: learned", x.undo(), 4);
-        CHECK.due("13: fits", x.waker(1, 1), 2);
-        CHECK.due("13: grown", x.undo(), 3);
-        CHECK.due("13: weight", x.client(1, 0), 0);
-        CHECK.due("13: let", x.undo(), 2);
-        CHECK.due("13: to whom", x.waker(0, 2), 0);
-        CHECK.due("13: second night", x.undo(), 1);
-        CHECK.due("13: weight 0", x.client(0, 0), 35);
-        CHECK.due("13: first night", x.undo(), 0);
-        CHECK.due("13: weight 0", x.client(0, 0), 40);
-        CHECK.due("13: weight 1", x.client(1, 0), 3);
-        CHECK.due("13: earned", x.count(5), 0);
-        CHECK.due("13: none", x.undo(), WakeLet.STATE);
-        x.let(1, 5);
-        x.let(1, 0);
-        x.undo();
-        CHECK.due("13: to nobody again", x.waker(1, 2), 5);
-        x.undo();
-        CHECK.due("13: to the second again", x.waker(1, 2), 1);
-        forgetting(x);
+        due("night", x.undo(), 5);
+        due("night is", x.count(3), 2);
+        due("weight is", x.client(1, 0), 7);
+        due("earned is", x.waker(1, 4), 8);
+        due("learned", x.undo(), 4);
+        due("fits", x.waker(1, 1), 2);
+        due("grown", x.undo(), 3);
+        due("weight", x.client(1, 0), 0);
+        due("let", x.undo(), 2);
+        due("to whom", x.waker(0, 2), 0);
+        due("second night", x.undo(), 1);
+        due("night is", x.count(3), 1);
+        due("weight", x.client(0, 0), 35);
+        due("earned", x.count(5), 9);
+        due("first night", x.undo(), 0);
+        due("night is", x.count(3), 0);
+        due("weights", x.client(0, 0), 40);
+        due("weights", x.client(1, 0), 3);
+        due("earned", x.count(5), 0);
     }
 
-    private static void forgetting(WakeLet x) {
-        x.grow(0, 1);
-        x.grow(0, 2);
-        x.nights(23);
-        CHECK.due("13: 24 at most", x.count(6), 24);
-        x.let(1, 5);
-        for (int left = 23; left >= 0; left--) {
-            CHECK.due("13: back", x.undo(), left);
+    static void promise13ACutNightIsUndoneWhole() {
+        WakeLet x = open("l5,3;w4,1;o9,1,0;");
+        x.nights(1);
+        due("cut at 0", x.client(0, 0), 0);
+        x.undo();
+        due("4 again", x.client(0, 0), 4);
+    }
+
+    static void promise13LettingToNobodyIsUndone() {
+        WakeLet x = open("l5,3;w40,1;w3,2;o5,1,1;");
+        x.let(0, 5);
+        x.let(0, 0);
+        due("one", x.undo(), 1);
+        due("to nobody", x.waker(0, 2), 5);
+        due("none", x.undo(), 0);
+        due("to the second", x.waker(0, 2), 1);
+    }
+
+    static void promise13TwentyFourActsAreKept() {
+        WakeLet x = open("l5,3;w1,1;");
+        for (int k = 0; k < 24; k++) {
+            x.grow(0, 1);
         }
-        CHECK.due("13: the oldest are forgotten", x.undo(), WakeLet.STATE);
-        CHECK.due("13: night 0", x.count(3), 0);
-        CHECK.due("13: weight", x.client(0, 0), 43);
-        for (int k = 0; k < 60; k++) {
+        due("24", x.count(6), 24);
+        for (int left = 23; left >= 0; left--) {
+            due("back", x.undo(), left);
+        }
+        due("the first is undone", x.client(0, 0), 1);
+        due("none left", x.undo(), STATE);
+    }
+
+    static void promise13OfMoreTheOldestIsForgotten() {
+        WakeLet x = open("l5,3;w1,1;");
+        for (int k = 0; k < 25; k++) {
+            x.grow(0, 1);
+        }
+        due("24", x.count(6), 24);
+        for (int left = 23; left >= 0; left--) {
+            due("back", x.undo(), left);
+        }
+        due("the first is not undone", x.client(0, 0), 2);
+        due("none left", x.undo(), STATE);
+    }
+
+    static void promise13OfNightsAtOnceTheOldestAreForgotten() {
+        WakeLet x = open("l5,3;w1,1;");
+        x.grow(0, 5);
+        x.nights(24);
+        for (int k = 0; k < 24; k++) {
+            x.undo();
+        }
+        due("night 0", x.count(3), 0);
+        due("grown", x.client(0, 0), 6);
+        due("forgotten", x.undo(), STATE);
+    }
+
+    static void promise13KeepingGoesRoundAndRound() {
+        WakeLet x = open("l5,3;w1,1;o1,0,0;");
+        for (int k = 0; k < 150; k++) {
             x.learn(0, k % 6);
         }
         for (int k = 0; k < 10; k++) {
             x.undo();
         }
-        CHECK.due("13: 14 yet", x.count(6), 14);
-        CHECK.due("13: fits", x.waker(0, 1), 1);
+        due("14 yet", x.count(6), 14);
+        due("number 139", x.waker(0, 1), 139 % 6);
+        for (int k = 0; k < 100; k++) {
+            x.learn(0, k % 5);
+        }
+        for (int k = 99; k >= 76; k--) {
+            due("number " + k, x.waker(0, 1), k % 5);
+            x.undo();
+        }
+        due("number 75", x.waker(0, 1), 75 % 5);
+        due("none left", x.undo(), STATE);
     }
 
-    private static void clients() {
-        WakeLet x = Check.open("l8,3;w8,1;w9,2;o5,1,0;c9,2,0;m4,2,1;o9,0,1;");
-        CHECK.due("14: weight", x.client(0, 0), 8);
-        CHECK.due("14: worry", x.client(0, 1), 1);
-        CHECK.due("14: rests", x.client(0, 2), 1);
-        CHECK.due("14: does not", x.client(1, 2), 0);
-        CHECK.due("14: wakers of 0", x.client(0, 3), 3);
-        CHECK.due("14: wakers of 1", x.client(1, 3), 12);
-        CHECK.due("14: lighter 0", x.client(0, 4), 5);
-        CHECK.due("14: lighter 1", x.client(1, 4), 8);
-        x.learn(2, 0);
-        CHECK.due("14: half of 9", x.client(1, 4), 4);
-        x.nights(3);
-        CHECK.due("14: not cut at 0", x.client(0, 4), 5);
-        x.let(0, 5);
-        CHECK.due("14: a clerk by the moon", x.client(0, 4), 0);
-        CHECK.due("14: -1", x.client(0, -1), WakeLet.BAD);
-        CHECK.due("14: 5", x.client(0, 5), WakeLet.BAD);
-        CHECK.due("14: no client", x.client(2, 0), WakeLet.BAD);
-        CHECK.due("14: no client -1", x.client(-1, 0), WakeLet.BAD);
+    static void promise13AnActBehindAnUndoneOneTakesItsPlace() {
+        WakeLet x = open("l5,3;w1,1;");
+        x.grow(0, 1);
+        x.grow(0, 2);
+        x.undo();
+        x.grow(0, 10);
+        due("two", x.count(6), 2);
+        due("back", x.undo(), 1);
+        due("2", x.client(0, 0), 2);
+        due("back", x.undo(), 0);
+        due("1", x.client(0, 0), 1);
     }
 
-    private static void wakers() {
-        WakeLet x = Check.open("l8,3;w8,1;o5,1,0;m9,1,0;");
-        CHECK.due("15: hours", x.waker(1, 0), 9);
-        CHECK.due("15: fits", x.waker(1, 1), 1);
-        CHECK.due("15: for", x.waker(1, 2), 0);
-        CHECK.due("15: lies", x.waker(1, 3), 18);
-        x.nights(2);
-        CHECK.due("15: earned", x.waker(1, 4), 36);
-        CHECK.due("15: -1", x.waker(0, -1), WakeLet.BAD);
-        CHECK.due("15: 5", x.waker(0, 5), WakeLet.BAD);
-        CHECK.due("15: no waker", x.waker(2, 0), WakeLet.BAD);
-        CHECK.due("15: no waker -1", x.waker(-1, 0), WakeLet.BAD);
+    static void promise13OnlyActsAreUndone() {
+        WakeLet x = open(READER);
+        x.grow(0, 1);
+        fill(x, 0, 0, 1, 2);
+        x.image(0);
+        x.ask(0, 1);
+        x.feed('l');
+        x.drop(7);
+        due("one act", x.undo(), 0);
+        due("rows", x.count(0), 1);
+        due("tape", x.count(7), 1);
+        due("trace", x.trace(0), 21);
+        due("status", x.status(), 1);
+        due("image", x.restore(0), 1);
+        due("as it was kept", x.client(0, 0), 2);
+    }
+
+    static void promise13WithoutWakersNightsAreUndoneToo() {
+        WakeLet x = open("l5,3;w5,1;w9,0;");
+        due("nobody rests", x.nights(3), 0);
+        x.undo();
+        x.undo();
+        due("one left", x.undo(), 0);
+        due("one rests", x.count(4), 1);
     }
 }

@@ -1,104 +1,247 @@
-/** Promises 29 to 33, and 34 as far as kinds go. */
-public final class AskedTest {
-    private static final Check CHECK = new Check("AskedTest");
-    private static final int KIND = -1000013;
+/** Promises 29 to 32. */
+public final class AskedTest extends Sentences {
+    private static final String SORTS = "ocmgn";
+    /** By sort: which kinds (bits) one is. */
+    private static final int[] IS = {0b000011, 0b000111, 0b001011, 0b010001, 0b110001};
 
     public static void main(String[] args) {
-        kinds();
-        asks();
-        traces();
-        counts();
-        CHECK.end();
+        run(AskedTest.class);
     }
 
-    /** Which kinds (bits) one of a sort is, beside the kind he is told as. */
-    private static void kind(String sort, int told, int kinds) {
-        WakeLet x = Check.open("l0,0;w0,0;o1,0,0;" + sort + "1,0,0;");
-        CHECK.due("29: " + sort, x.kind(1), told);
-        for (int k = 0; k <= 5; k++) {
-            boolean is = (kinds >> k & 1) == 1;
-            CHECK.due("30: " + sort + " as " + k, x.as(1, k), is ? 1 : KIND);
-            CHECK.due("34: " + sort + " as " + k, x.status(), is ? 0 : 3);
-        }
-    }
-
-    private static void kinds() {
-        kind("o", 1, 0b000011);
-        kind("c", 2, 0b000111);
-        kind("m", 3, 0b001011);
-        kind("g", 4, 0b010001);
-        kind("n", 5, 0b110001);
-        WakeLet x = Check.open("l0,0;w0,0;o1,0,0;");
-        CHECK.due("29: waker 1", x.kind(1), WakeLet.BAD);
-        CHECK.due("29: waker -1", x.kind(-1), WakeLet.BAD);
-        CHECK.due("30: no mother", x.as(0, 3), KIND);
-        CHECK.due("30: waker 1", x.as(1, 0), WakeLet.BAD);
-        CHECK.due("30: waker -1", x.as(-1, 0), WakeLet.BAD);
-        CHECK.due("30: kind 6", x.as(0, 6), WakeLet.BAD);
-        CHECK.due("30: kind -1", x.as(0, -1), WakeLet.BAD);
-        CHECK.due("34: bad leaves it", x.status(), 3);
-        x.row(0, 0, 1);
-        CHECK.due("34: then a row", x.status(), 0);
+    /** A waker of a sort with the number w, behind others. */
+    private static WakeLet hired(char sort, int w, int hours) {
+        return open("l0,6;w0,0;" + "g1,0,0;".repeat(w) + sort + hours + ",0,0;");
     }
 
     private static void ask(WakeLet x, int waker, int what, int answer, int... trace) {
-        String call = "31: ask(" + waker + ", " + what + ")";
-        CHECK.due(call, x.ask(waker, what), answer);
-        for (int i = 0; i < trace.length; i++) {
-            CHECK.due("32: " + call + " trace " + i, x.trace(i), trace[i]);
+        String call = "ask(" + waker + ", " + what + ")";
+        due(call, x.ask(waker, what), answer);
+        for (int i = 0; i < 16; i++) {
+            due(call + ", trace " + i, x.trace(i), i < trace.length ? trace[i] : NONE);
         }
-        CHECK.due("32: " + call + " no more", x.trace(trace.length), WakeLet.NONE);
     }
 
-    private static void asks() {
-        WakeLet x = Check.open("l0,6;w0,0;g3,0,0;o4,0,0;c5,0,0;m6,0,0;");
+    // ---- 29: kind
+
+    static void promise29KindsAreAsTold() {
+        for (int k = 0; k < 5; k++) {
+            for (int w = 0; w < 4; w++) {
+                due(SORTS.charAt(k) + " as waker " + w, hired(SORTS.charAt(k), w, 1).kind(w), k + 1);
+            }
+        }
+    }
+
+    static void promise29WakersAreThoseThereAre() {
+        WakeLet x = open("l0,0;w0,0;o1,0,0;n1,0,0;");
+        due("-1", x.kind(-1), BAD);
+        due("0", x.kind(0), 1);
+        due("1", x.kind(1), 5);
+        due("2", x.kind(2), BAD);
+        due("the least", x.kind(MIN), BAD);
+        due("the most", x.kind(MAX), BAD);
+        due("3 of four", hired('m', 3, 1).kind(3), 3);
+        due("4 of four", hired('m', 3, 1).kind(4), BAD);
+        due("none there", open("l0,0;w0,0;").kind(0), BAD);
+        due("no agency", new WakeLet().kind(0), BAD);
+    }
+
+    // ---- 30: as
+
+    static void promise30EachIsOfHisKindsAndNoOther() {
+        for (int k = 0; k < 5; k++) {
+            WakeLet x = hired(SORTS.charAt(k), 0, 1);
+            for (int kind = 0; kind <= 5; kind++) {
+                boolean is = (IS[k] >> kind & 1) == 1;
+                due(SORTS.charAt(k) + " as " + kind, x.as(0, kind), is ? 0 : KIND);
+                due("status", x.status(), is ? 0 : 3);
+            }
+        }
+    }
+
+    static void promise30ItTellsTheWakersNumber() {
+        WakeLet x = open("l0,0;w0,0;n1,0,0;n1,0,0;n1,0,0;n1,0,0;");
+        for (int w = 0; w < 4; w++) {
+            due("a waker", x.as(w, 0), w);
+            due("a guard", x.as(w, 4), w);
+            due("a novice", x.as(w, 5), w);
+        }
+    }
+
+    static void promise30WakersAreThoseThereAre() {
+        WakeLet x = open("l0,0;w0,0;o1,0,0;n1,0,0;");
+        due("-1", x.as(-1, 0), BAD);
+        due("2", x.as(2, 0), BAD);
+        due("the least", x.as(MIN, 0), BAD);
+        due("the most", x.as(MAX, 0), BAD);
+        due("4 of four", hired('m', 3, 1).as(4, 0), BAD);
+        due("none there", open("l0,0;w0,0;").as(0, 0), BAD);
+        due("no agency", new WakeLet().as(0, 0), BAD);
+    }
+
+    static void promise30KindsAre0To5() {
+        WakeLet x = open("l0,0;w0,0;n1,0,0;");
+        due("-1", x.as(0, -1), BAD);
+        due("0", x.as(0, 0), 0);
+        due("5", x.as(0, 5), 0);
+        due("6", x.as(0, 6), BAD);
+        due("the least", x.as(0, MIN), BAD);
+        due("the most", x.as(0, MAX), BAD);
+    }
+
+    static void promise30BadComesAheadOfKind() {
+        WakeLet x = open("l0,0;w0,0;o1,0,0;");
+        due("no such kind", x.as(0, 6), BAD);
+        due("no such waker", x.as(1, 3), BAD);
+        due("no finding", x.status(), 0);
+        due("it is no mother", x.as(0, 3), KIND);
+        due("finding", x.status(), 3);
+    }
+
+    static void promise30NothingChanges() {
+        WakeLet x = open("l0,0;w0,0;n1,0,0;");
+        x.as(0, 4);
+        x.as(0, 1);
+        due("kind", x.kind(0), 5);
+        due("acts", x.count(6), 0);
+    }
+
+    // ---- 31: ask
+
+    static void promise31WakersAreThoseThereAre() {
+        WakeLet x = open("l0,0;w0,0;o1,0,0;o1,0,0;");
+        due("-1", x.ask(-1, 0), BAD);
+        due("0", x.ask(0, 1), 0);
+        due("1", x.ask(1, 1), 1);
+        due("2", x.ask(2, 0), BAD);
+        due("the least", x.ask(MIN, 0), BAD);
+        due("the most", x.ask(MAX, 0), BAD);
+        due("4 of four", hired('m', 3, 1).ask(4, 0), BAD);
+        due("none there", open("l0,0;w0,0;").ask(0, 0), BAD);
+        due("no agency", new WakeLet().ask(0, 0), BAD);
+    }
+
+    static void promise31WhatIs0Or1() {
+        WakeLet x = open("l0,0;w0,0;o1,0,0;o1,0,0;");
+        due("-1", x.ask(1, -1), BAD);
+        due("0", x.ask(1, 0), 2);
+        due("1", x.ask(1, 1), 1);
+        due("2", x.ask(1, 2), BAD);
+        due("the least", x.ask(1, MIN), BAD);
+        due("the most", x.ask(1, MAX), BAD);
+    }
+
+    static void promise31AnOwlIsAsked() {
+        WakeLet x = hired('o', 1, 4);
         x.nights(2);
-        ask(x, 0, 0, 3 - 100, 13, 10);
-        ask(x, 0, 1, 0 - (3 - 100), 23, 20, 13, 10);
         ask(x, 1, 0, 4 + 1 + 8, 11, 10, 21, 20);
         ask(x, 1, 1, 1 + 8, 21, 20);
+    }
+
+    static void promise31AClerkIsAsked() {
+        WakeLet x = hired('c', 2, 5);
+        x.nights(2);
         ask(x, 2, 0, -(5 + 2 * (2 + 10)), 12, 11, 10, 24, 21, 20);
         ask(x, 2, 1, 2 * (2 + 10), 24, 21, 20);
+    }
+
+    static void promise31AMotherIsAsked() {
+        WakeLet x = hired('m', 3, 6);
+        x.nights(2);
         ask(x, 3, 0, 6 + (3 + 24 - 1000), 11, 10, 22, 21, 20);
         ask(x, 3, 1, 3 + 24 - 1000, 22, 21, 20);
-        Check.read(x, "l0,6;w0,0;o9,0,0;n7,0,0;");
+    }
+
+    static void promise31AGuardIsAsked() {
+        WakeLet x = hired('g', 2, 3);
+        x.nights(2);
+        ask(x, 2, 0, 3 - 100, 13, 10);
+        ask(x, 2, 1, 2 - (3 - 100), 23, 20, 13, 10);
+    }
+
+    static void promise31ANoviceIsAsked() {
+        WakeLet x = hired('n', 1, 7);
         x.nights(2);
         ask(x, 1, 0, 2 * (7 - 100), 14, 13, 10);
         ask(x, 1, 1, 1 - 2 * (7 - 100), 23, 20, 14, 13, 10);
     }
 
-    private static void traces() {
-        WakeLet x = Check.open("l0,6;w0,0;g3,0,0;");
-        CHECK.due("32: none yet", x.trace(0), WakeLet.NONE);
-        x.ask(0, 1);
-        CHECK.due("31: waker 1", x.ask(1, 0), WakeLet.BAD);
-        CHECK.due("31: waker -1", x.ask(-1, 0), WakeLet.BAD);
-        CHECK.due("31: what 2", x.ask(0, 2), WakeLet.BAD);
-        CHECK.due("31: what -1", x.ask(0, -1), WakeLet.BAD);
-        CHECK.due("32: what is refused leaves it", x.trace(3), 10);
-        CHECK.due("32: -1", x.trace(-1), WakeLet.NONE);
-        CHECK.due("32: least", x.trace(Integer.MIN_VALUE), WakeLet.NONE);
-        CHECK.due("32: 16", x.trace(16), WakeLet.NONE);
-        CHECK.due("32: most", x.trace(Integer.MAX_VALUE), WakeLet.NONE);
-        x.ask(0, 0);
-        CHECK.due("32: empty ahead", x.trace(2), WakeLet.NONE);
+    static void promise31WithoutHoursOrEarningsItIsFromNothing() {
+        ask(hired('o', 0, 0), 0, 0, 0, 11, 10, 21, 20);
+        ask(hired('o', 0, 0), 0, 1, 0, 21, 20);
+        ask(hired('c', 0, 0), 0, 0, 0, 12, 11, 10, 24, 21, 20);
+        ask(hired('m', 0, 0), 0, 0, -1000, 11, 10, 22, 21, 20);
+        ask(hired('g', 0, 0), 0, 1, 100, 23, 20, 13, 10);
+        ask(hired('n', 0, 0), 0, 1, 200, 23, 20, 14, 13, 10);
     }
 
-    private static void counts() {
-        WakeLet x = Check.open("l5,6;w0,0;w9,0;w5,0;o3,0,1;m2,0,0;");
-        x.row(3, 0, 1);
-        x.feed('l');
-        x.feed('l');
-        x.nights(1);
-        x.grow(0, 2);
-        int[] due = {1, 3, 2, 1, 1, 7, 2, 2};
-        for (int what = 0; what < due.length; what++) {
-            CHECK.due("33: " + what, x.count(what), due[what]);
+    static void promise31TheMostEarnedIsTold() {
+        WakeLet x = open("l0,6;w0,0;o9,0,0;m9,0,0;");
+        passNights(x, 999);
+        due("an owl", x.ask(0, 0), 9 + 999 * 9);
+        due("a mother", x.ask(1, 1), 1 + 999 * 18 - 1000);
+    }
+
+    static void promise31HoursAreAskedThoughHeDoesNotLie() {
+        ask(open("l0,6;w0,0;g3,0,5;"), 0, 0, 3 - 100, 13, 10);
+        WakeLet x = hired('g', 0, 3);
+        x.nights(2);
+        due("he does not lie", x.waker(0, 3), 0);
+        ask(x, 0, 0, 3 - 100, 13, 10);
+    }
+
+    static void promise31TheTraceIsEmptyAhead() {
+        WakeLet x = open("l0,6;w0,0;c3,0,0;g3,0,0;");
+        ask(x, 0, 0, -3, 12, 11, 10, 24, 21, 20);
+        ask(x, 1, 0, -97, 13, 10);
+        ask(x, 1, 0, -97, 13, 10);
+    }
+
+    static void promise31WhatIsRefusedLeavesTheTrace() {
+        WakeLet x = open("l0,6;w0,0;g3,0,0;");
+        x.ask(0, 1);
+        x.ask(1, 0);
+        x.ask(-1, 0);
+        x.ask(0, 2);
+        x.ask(0, -1);
+        int[] due = {23, 20, 13, 10, NONE};
+        for (int i = 0; i < due.length; i++) {
+            due("trace " + i, x.trace(i), due[i]);
         }
+    }
+
+    // ---- 32: trace
+
+    static void promise32IsNoneBeforeAnAsk() {
+        due("new", new WakeLet().trace(0), NONE);
+        due("an agency", hired('o', 0, 1).trace(0), NONE);
+    }
+
+    static void promise32OutsideItIsNone() {
+        WakeLet x = hired('g', 0, 3);
+        x.ask(0, 0);
+        due("-1", x.trace(-1), NONE);
+        due("0", x.trace(0), 13);
+        due("1", x.trace(1), 10);
+        due("2", x.trace(2), NONE);
+        due("15", x.trace(15), NONE);
+        due("16", x.trace(16), NONE);
+        due("the least", x.trace(MIN), NONE);
+        due("the most", x.trace(MAX), NONE);
+    }
+
+    static void promise32ItStaysUntilTheNextAsk() {
+        WakeLet x = hired('n', 0, 3);
+        x.image(0);
+        x.ask(0, 0);
         x.nights(1);
-        CHECK.due("33: rests", x.count(4), 3);
-        CHECK.due("33: -1", x.count(-1), WakeLet.BAD);
-        CHECK.due("33: 8", x.count(8), WakeLet.BAD);
-        CHECK.due("33: most", x.count(Integer.MAX_VALUE), WakeLet.BAD);
+        x.undo();
+        x.restore(0);
+        read(x, "l0,0;w0,0;");
+        read(x, "l");
+        x.as(0, 3);
+        int[] due = {14, 13, 10, NONE};
+        for (int i = 0; i < due.length; i++) {
+            due("trace " + i, x.trace(i), due[i]);
+        }
     }
 }

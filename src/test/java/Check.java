@@ -16,6 +16,10 @@ final class Check {
         }
     }
 
+    int asked() {
+        return asked;
+    }
+
     /** The tape gets a text byte by byte, and is read. */
     static int read(WakeLet x, String text) {
         for (int i = 0; i < text.length(); i++) {

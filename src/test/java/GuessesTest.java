@@ -1,167 +1,271 @@
-/** Promises 24 to 28. */
-public final class GuessesTest {
-    private static final Check CHECK = new Check("GuessesTest");
-    private static final int NULL = -1000011, PLACE = -1000012;
+import java.util.Arrays;
+import java.util.function.IntFunction;
+
+/** Promise 24. */
+public final class GuessesTest extends Sentences {
+    private static final int LAIN = 0, SORTS = 1, FITTING = 2;
 
     public static void main(String[] args) {
-        fits();
-        wrongFits();
-        nods();
-        drawn();
-        images();
-        CHECK.end();
+        run(GuessesTest.class);
     }
 
-    private static void windows(WakeLet x, int row, int... lit) {
-        x.row(row, 0, lit.length);
-        for (int i = 0; i < lit.length; i++) {
-            x.set(row, i, lit[i]);
+    /** Who rests behind each of n nights from t on, if the agency is told so. */
+    private static int[] seen(String text, int t, int n) {
+        WakeLet x = open(text);
+        passNights(x, t);
+        int[] lit = new int[n];
+        for (int k = 0; k < n; k++) {
+            lit[k] = x.nights(1);
+        }
+        return lit;
+    }
+
+    /** Each guess is put into a text of its own; by those that look alike it is so. */
+    private static void guessed(int what, int least, int most, int n, IntFunction<String> text) {
+        for (int truth = least; truth <= most; truth++) {
+            int[] lit = seen(text.apply(truth), 0, n);
+            int due = 0;
+            for (int guess = least; guess <= most; guess++) {
+                due |= Arrays.equals(lit, seen(text.apply(guess), 0, n)) ? 1 << guess : 0;
+            }
+            for (int told = least; told <= most; told++) {
+                WakeLet x = open(text.apply(told));
+                fill(x, 0, 0, lit);
+                due(what + ": " + text.apply(truth) + " from " + told, x.fits(0, 0, 0, n, what), due);
+            }
         }
     }
 
-    private static void fits() {
-        WakeLet x = Check.open("l0,1;w8,1;w8,2;o4,1,0;");
-        windows(x, 0, 0, 1, 1);
-        CHECK.due("24: let to the first", x.fits(0, 0, 0, 3, 0), 1);
-        CHECK.due("24: all but a clerk, a mother", x.fits(0, 0, 0, 3, 1), 1 << 1 | 1 << 4 | 1 << 5);
-        CHECK.due("24: his worry", x.fits(0, 0, 0, 3, 2), 2);
-        windows(x, 1, 1, 1, 1);
-        CHECK.due("24: a mother", x.fits(0, 1, 0, 3, 1), 1 << 3);
-        CHECK.due("24: none let so", x.fits(0, 1, 0, 3, 0), 0);
-        windows(x, 2, 0, 0, 0, 1);
-        CHECK.due("24: half of it, or a clerk's night off", x.fits(0, 2, 0, 4, 2), 0b111101);
-        CHECK.due("24: nobody, or the second, for one night", x.fits(0, 2, 0, 1, 0), 0b100011);
-        CHECK.due("24: three dark nights", x.fits(0, 2, 0, 3, 0), 0b100010);
-        CHECK.due("24: a part of a row", x.fits(0, 0, 1, 1, 0), 0);
-        x.nights(1);
-        CHECK.due("24: from this night on", x.fits(0, 0, 1, 2, 1), 1 << 1 | 1 << 3 | 1 << 4 | 1 << 5);
-        CHECK.due("24: nothing changes", x.kind(0), 1);
-        CHECK.due("24: nor whose he is", x.waker(0, 2), 0);
-        CHECK.due("24: nor what fits", x.waker(0, 1), 1);
-        x.row(3, 2, 40);
+    // ---- refusals and findings
+
+    static void promise24WakersAreThoseThereAre() {
+        WakeLet x = open("l0,1;w8,1;o4,1,0;o4,1,5;");
+        x.row(0, 0, 1);
+        due("-1", x.fits(-1, 0, 0, 1, 0), BAD);
+        due("0", x.fits(0, 0, 0, 1, 0), 33);
+        due("1", x.fits(1, 0, 0, 1, 0), 33);
+        due("2", x.fits(2, 0, 0, 1, 0), BAD);
+        due("the least", x.fits(MIN, 0, 0, 1, 0), BAD);
+        due("the most", x.fits(MAX, 0, 0, 1, 0), BAD);
+        WakeLet y = new WakeLet();
+        y.row(0, 0, 1);
+        due("no agency", y.fits(0, 0, 0, 1, 0), BAD);
+        WakeLet z = open("l0,1;w8,1;");
+        z.row(0, 0, 1);
+        due("no wakers", z.fits(0, 0, 0, 1, 0), BAD);
+    }
+
+    static void promise24RowsAre0To7() {
+        WakeLet x = open("l0,1;w8,1;o4,1,0;");
+        x.row(0, 0, 1);
         x.row(7, 0, 1);
-        CHECK.due("24: the last row", x.fits(0, 7, 0, 1, 0), 0b100010);
-        CHECK.due("24: 16 nights", x.fits(0, 3, 24, 16, 0), 0b100000);
+        due("-1", x.fits(0, -1, 0, 1, 0), BAD);
+        due("0", x.fits(0, 0, 0, 1, 0), 33);
+        due("7", x.fits(0, 7, 0, 1, 0), 33);
+        due("8", x.fits(0, 8, 0, 1, 0), BAD);
+        due("the least", x.fits(0, MIN, 0, 1, 0), BAD);
+        due("the most", x.fits(0, MAX, 0, 1, 0), BAD);
     }
 
-    private static void wrongFits() {
-        WakeLet x = Check.open("l0,1;w8,1;o4,1,0;");
-        x.row(0, 0, 5);
-        CHECK.due("24: waker 1", x.fits(1, 0, 0, 1, 0), WakeLet.BAD);
-        CHECK.due("24: waker -1", x.fits(-1, 0, 0, 1, 0), WakeLet.BAD);
-        CHECK.due("24: row 8", x.fits(0, 8, 0, 1, 0), WakeLet.BAD);
-        CHECK.due("24: row -1", x.fits(0, -1, 0, 1, 0), WakeLet.BAD);
-        CHECK.due("24: n 0", x.fits(0, 0, 0, 0, 0), WakeLet.BAD);
-        CHECK.due("24: n 17", x.fits(0, 0, 0, 17, 0), WakeLet.BAD);
-        CHECK.due("24: what -1", x.fits(0, 0, 0, 1, -1), WakeLet.BAD);
-        CHECK.due("24: what 3", x.fits(0, 0, 0, 1, 3), WakeLet.BAD);
-        CHECK.due("24: bad before null", x.fits(0, 1, 0, 0, 0), WakeLet.BAD);
-        CHECK.due("24: null before place", x.fits(0, 1, -1, 1, 0), NULL);
-        CHECK.due("34: null", x.status(), 1);
-        CHECK.due("24: place -1", x.fits(0, 0, -1, 1, 0), PLACE);
-        CHECK.due("34: place", x.status(), 2);
-        CHECK.due("24: place 5", x.fits(0, 0, 5, 1, 0), PLACE);
-        CHECK.due("24: too long", x.fits(0, 0, 1, 5, 0), PLACE);
-        CHECK.due("24: sums run over", x.fits(0, 0, Integer.MAX_VALUE, 16, 0), PLACE);
-        CHECK.due("34: bad leaves it", x.fits(0, 0, 0, 1, 3), WakeLet.BAD);
-        CHECK.due("34: place still", x.status(), 2);
-        CHECK.due("24: all of it", x.fits(0, 0, 0, 1, 0), 0b100001);
-        CHECK.due("34: none", x.status(), 0);
+    static void promise24NightsAre1To16() {
+        WakeLet x = open("l0,1;w8,1;o0,1,0;");
+        x.row(0, 0, 40);
+        due("-1", x.fits(0, 0, 0, -1, 0), BAD);
+        due("0", x.fits(0, 0, 0, 0, 0), BAD);
+        due("1", x.fits(0, 0, 0, 1, 0), 33);
+        due("16", x.fits(0, 0, 0, 16, 0), 33);
+        due("17", x.fits(0, 0, 0, 17, 0), BAD);
+        due("the least", x.fits(0, 0, 0, MIN, 0), BAD);
+        due("the most", x.fits(0, 0, 0, MAX, 0), BAD);
     }
 
-    private static void fraction(WakeLet x, int m, int c, int above, int below) {
-        CHECK.due("25: above of " + m + ", " + c, x.nods(m, c, 0), above);
-        CHECK.due("25: below of " + m + ", " + c, x.nods(m, c, 1), below);
+    static void promise24WhatIs0To2() {
+        WakeLet x = open("l0,1;w40,1;o0,1,0;");
+        x.row(0, 0, 1);
+        due("-1", x.fits(0, 0, 0, 1, -1), BAD);
+        due("0", x.fits(0, 0, 0, 1, 0), 33);
+        due("1", x.fits(0, 0, 0, 1, 1), 62);
+        due("2", x.fits(0, 0, 0, 1, 2), 63);
+        due("3", x.fits(0, 0, 0, 1, 3), BAD);
+        due("the least", x.fits(0, 0, 0, 1, MIN), BAD);
+        due("the most", x.fits(0, 0, 0, 1, MAX), BAD);
     }
 
-    private static void nods() {
-        CHECK.due("25: no agency", new WakeLet().nods(-1, 0, 0), WakeLet.STATE);
-        WakeLet x = Check.open("l5,6;w9,1;w9,1;o4,1,0;o9,1,0;m2,1,1;g9,2,5;");
-        fraction(x, 0, 3, 1, 1);
-        fraction(x, 1, 3, 973, 1000);
-        fraction(x, 2, 3, 637, 1000);
-        fraction(x, 3, 3, 0, 1);
-        fraction(x, 5, 3, 0, 1);
-        fraction(x, 2, 5, 3, 8);
-        fraction(x, 2, 0, 1, 1);
-        fraction(x, 2, 10, 0, 1);
-        fraction(x, 0, 10, 1, 1);
-        CHECK.due("25: nothing changes", x.count(3), 0);
-        CHECK.due("25: m -1", x.nods(-1, 0, 0), WakeLet.BAD);
-        CHECK.due("25: m 6", x.nods(6, 0, 0), WakeLet.BAD);
-        CHECK.due("25: c -1", x.nods(0, -1, 0), WakeLet.BAD);
-        CHECK.due("25: c 11", x.nods(0, 11, 0), WakeLet.BAD);
-        CHECK.due("25: what -1", x.nods(0, 0, -1), WakeLet.BAD);
-        CHECK.due("25: what 2", x.nods(0, 0, 2), WakeLet.BAD);
-        WakeLet y = Check.open("l5,6;w5,1;w0,1;");
-        fraction(y, 1, 4, 1, 1);
-        fraction(y, 2, 4, 0, 1);
-        WakeLet z = Check.open("l0,6;w1,1;w1,2;w1,3;w1,4;o2,0,0;o2,0,1;o2,0,2;o2,0,3;");
-        fraction(z, 4, 1, 6561, 10000);
-        fraction(z, 1, 9, 3439, 10000);
-        fraction(z, 4, 4, 81, 625);
+    static void promise24BadComesAheadOfNullAndPlace() {
+        WakeLet x = open("l0,1;w8,1;o4,1,0;");
+        due("waker, missing row", x.fits(1, 3, 0, 1, 0), BAD);
+        due("n 0, missing row", x.fits(0, 3, 0, 0, 0), BAD);
+        due("n 17, missing row", x.fits(0, 3, 0, 17, 0), BAD);
+        due("what, missing row", x.fits(0, 3, 0, 1, 3), BAD);
+        x.row(3, 0, 5);
+        due("n 17, no place", x.fits(0, 3, -1, 17, 0), BAD);
+        due("n 0, no place", x.fits(0, 3, 6, 0, 0), BAD);
+        due("no finding", x.status(), 0);
     }
 
-    private static void drawn() {
-        CHECK.due("26: no agency", new WakeLet().drawn(-1, 0, 0), WakeLet.STATE);
-        WakeLet x = Check.open("l5,6;w9,1;w0,2;o4,1,0;");
-        CHECK.due("26: no night, nobody yet", x.drawn(0, 1, 0), 0);
-        CHECK.due("26: no night, weights", x.drawn(0, 1, 1), 9);
-        // 16807 is odd, and leaves 2 by 5: the second worry becomes 2, then 3; the first 5.
-        CHECK.due("26: one night, two rest", x.drawn(1, 1, 0), 2);
-        CHECK.due("26: one night, weights", x.drawn(1, 1, 1), 8);
-        // 282475249 is odd, and leaves 4: the second worry becomes 7, then 8; the first 1.
-        CHECK.due("26: two nights", x.drawn(2, 1, 0), 3);
-        CHECK.due("26: two nights, weights", x.drawn(2, 1, 1), 9);
-        CHECK.due("26: nothing changes", x.client(0, 0), 9);
-        CHECK.due("26: n -1", x.drawn(-1, 1, 0), WakeLet.BAD);
-        CHECK.due("26: n 61", x.drawn(61, 1, 0), WakeLet.BAD);
-        CHECK.due("26: seed 0", x.drawn(1, 0, 0), WakeLet.BAD);
-        CHECK.due("26: seed 1000000", x.drawn(1, 1000000, 0), WakeLet.BAD);
-        CHECK.due("26: what -1", x.drawn(1, 1, -1), WakeLet.BAD);
-        CHECK.due("26: what 2", x.drawn(1, 1, 2), WakeLet.BAD);
-        WakeLet y = Check.open("l0,6;w40,1;");
-        CHECK.due("26: 99 at most", y.drawn(60, 999999, 1), 99);
-        CHECK.due("26: nobody", y.drawn(60, 999999, 0), 0);
+    static void promise24AMissingRowIsNullAheadOfPlace() {
+        WakeLet x = open("l0,1;w8,1;o4,1,0;");
+        due("0", x.fits(0, 3, 0, 1, 0), NULL);
+        due("-1", x.fits(0, 3, -1, 1, 0), NULL);
+        due("status", x.status(), 1);
     }
 
-    private static void images() {
-        WakeLet x = new WakeLet();
-        CHECK.due("27: bad before state", x.image(2), WakeLet.BAD);
-        CHECK.due("27: -1", x.image(-1), WakeLet.BAD);
-        CHECK.due("27: no agency", x.image(0), WakeLet.STATE);
-        CHECK.due("28: bad before state", x.restore(-1), WakeLet.BAD);
-        CHECK.due("28: 2", x.restore(2), WakeLet.BAD);
-        CHECK.due("28: none", x.restore(0), WakeLet.STATE);
-        Check.read(x, "l5,6;w9,1;w0,2;c4,1,0;m1,2,5;");
-        x.nights(3);
-        CHECK.due("27: kept", x.image(1), 1);
-        CHECK.due("27: acts stay", x.count(6), 3);
-        CHECK.due("28: the other was not", x.restore(0), WakeLet.STATE);
-        x.nights(4);
-        x.let(1, 0);
-        x.learn(0, 3);
-        x.grow(1, 20);
-        CHECK.due("27: the other", x.image(0), 1);
-        Check.read(x, "l1,1;w1,0;");
-        CHECK.due("28: back", x.restore(1), 1);
-        CHECK.due("28: no acts", x.undo(), WakeLet.STATE);
-        CHECK.due("28: clients", x.count(1), 2);
-        CHECK.due("28: wakers", x.count(2), 2);
-        CHECK.due("28: night", x.count(3), 3);
-        CHECK.due("28: earned", x.waker(0, 4), 12);
-        CHECK.due("28: kind", x.kind(1), 3);
-        CHECK.due("28: to nobody", x.waker(1, 2), 5);
-        CHECK.due("28: fits", x.waker(0, 1), 1);
-        CHECK.due("28: bears", x.count(4), 3);
-        CHECK.due("28: moon", x.earned(0, 4), 24);
-        x.nights(1);
-        CHECK.due("28: again", x.restore(1), 1);
-        CHECK.due("28: no acts again", x.count(6), 0);
-        CHECK.due("28: as kept", x.count(3), 3);
-        CHECK.due("28: the other", x.restore(0), 1);
-        CHECK.due("28: its night", x.count(3), 7);
-        CHECK.due("28: its weight", x.client(1, 0), 20);
-        CHECK.due("28: its fits", x.waker(0, 1), 3);
+    static void promise24PlacesAreThoseOfTheRow() {
+        WakeLet x = open("l0,1;w40,1;o0,1,0;");
+        x.row(0, 0, 18);
+        due("-1", x.fits(0, 0, -1, 1, 0), PLACE);
+        due("status", x.status(), 2);
+        due("0", x.fits(0, 0, 0, 1, 0), 33);
+        due("17, one", x.fits(0, 0, 17, 1, 0), 33);
+        due("18, one", x.fits(0, 0, 18, 1, 0), PLACE);
+        due("2, sixteen", x.fits(0, 0, 2, 16, 0), 33);
+        due("3, sixteen", x.fits(0, 0, 3, 16, 0), PLACE);
+        due("the least", x.fits(0, 0, MIN, 1, 0), PLACE);
+        due("the most", x.fits(0, 0, MAX, 16, 0), PLACE);
+        x.row(0, 0, 16);
+        due("a row of just 16", x.fits(0, 0, 0, 16, 0), 33);
+        x.row(0, 0, 15);
+        due("a row of 15", x.fits(0, 0, 0, 16, 0), PLACE);
+        x.row(0, 0, 0);
+        due("an empty row", x.fits(0, 0, 0, 1, 0), PLACE);
+    }
+
+    // ---- by which it is so
+
+    static void promise24LainToldByEachClientAndNobody() {
+        WakeLet x = open(READER);
+        fill(x, 0, 0, 1, 2, 4, 8, 16, 0);
+        for (int k = 0; k <= 5; k++) {
+            due("let to " + k, x.fits(0, 0, k, 1, LAIN), 1 << k);
+        }
+    }
+
+    static void promise24LainOnlyClientsThereAre() {
+        for (int clients = 1; clients <= 5; clients++) {
+            WakeLet x = open("l0,1;" + "w8,1;".repeat(clients) + "o0,1,0;");
+            x.row(0, 0, 1);
+            due("of " + clients, x.fits(0, 0, 0, 1, LAIN), 32 | (1 << clients) - 1);
+        }
+    }
+
+    static void promise24LainIsAsIfToldSo() {
+        String text = "l4,1;w20,1;w12,2;w9,1;w30,0;w5,3;m3,1,%d;o2,2,1;";
+        guessed(LAIN, 0, 5, 16, of -> String.format(text, of));
+        guessed(LAIN, 0, 5, 1, of -> String.format(text, of));
+    }
+
+    static void promise24SortsAreKinds1To5() {
+        String text = "l2,3;w40,1;w3,2;%c4,1,0;";
+        guessed(SORTS, 1, 5, 16, kind -> String.format(text, " ocmgn".charAt(kind)));
+        guessed(SORTS, 1, 5, 6, kind -> String.format(text, " ocmgn".charAt(kind)));
+        guessed(SORTS, 1, 5, 1, kind -> String.format(text, " ocmgn".charAt(kind)));
+    }
+
+    static void promise24FittingIsWorries0To5() {
+        for (int worry = 0; worry <= 5; worry++) {
+            String text = "l2,3;w40," + worry + ";w3,2;m4,%d,0;";
+            guessed(FITTING, 0, 5, 16, fits -> String.format(text, fits));
+        }
+    }
+
+    static void promise24EachSortCanBeTheOnlyOne() {
+        String text = "l20,1;w39,1;%c4,1,0;";
+        int[] lit = seen(String.format(text, 'm'), 0, 8);
+        WakeLet x = open(String.format(text, 'o'));
+        fill(x, 0, 0, lit);
+        due("a mother", x.fits(0, 0, 0, 8, SORTS), 1 << 3);
+        fill(x, 0, 0, seen(String.format(text, 'c'), 0, 8));
+        due("a clerk", x.fits(0, 0, 0, 8, SORTS), 1 << 2);
+        fill(x, 0, 0, seen(String.format(text, 'o'), 0, 8));
+        due("an owl", x.fits(0, 0, 0, 8, SORTS) & 1 << 1, 1 << 1);
+    }
+
+    static void promise24ByNoneItIs0() {
+        WakeLet x = open("l0,1;w40,1;o4,1,0;");
+        fill(x, 0, 0, 1);
+        for (int what = 0; what <= 2; what++) {
+            due("what " + what, x.fits(0, 0, 0, 1, what), 0);
+        }
+        due("no finding", x.status(), 0);
+    }
+
+    static void promise24AllBitsOfAnItemCount() {
+        WakeLet x = open("l9,1;w0,1;w0,1;w0,1;w0,1;w0,1;o4,1,0;");
+        fill(x, 0, 0, 31, 63, -1, 30);
+        due("31", x.fits(0, 0, 0, 1, LAIN), 63);
+        due("63", x.fits(0, 0, 1, 1, LAIN), 0);
+        due("-1", x.fits(0, 0, 2, 1, LAIN), 0);
+        due("30", x.fits(0, 0, 3, 1, LAIN), 0);
+        fill(x, 1, 1, 31, 256 + 31, -32768 + 31);
+        due("a short of 31", x.fits(0, 1, 0, 1, LAIN), 63);
+        due("a short of more", x.fits(0, 1, 1, 1, LAIN), 0);
+        due("a short below 0", x.fits(0, 1, 2, 1, LAIN), 0);
+        fill(x, 2, 2, 31, 65536 + 31, MIN + 31);
+        due("an int of 31", x.fits(0, 2, 0, 1, LAIN), 63);
+        due("an int of more", x.fits(0, 2, 1, 1, LAIN), 0);
+        due("an int below 0", x.fits(0, 2, 2, 1, LAIN), 0);
+    }
+
+    static void promise24EachOfTheNightsCounts() {
+        WakeLet x = open("l9,1;w0,1;o4,1,0;");
+        for (int dark = 0; dark < 16; dark++) {
+            int[] lit = new int[16];
+            Arrays.fill(lit, 1);
+            lit[dark] = 0;
+            fill(x, 0, 0, lit);
+            due("dark at " + dark, x.fits(0, 0, 0, 16, LAIN), 0);
+        }
+        int[] lit = new int[17];
+        Arrays.fill(lit, 0, 16, 1);
+        fill(x, 0, 0, lit);
+        due("dark behind them", x.fits(0, 0, 0, 16, LAIN), 33);
+        due("not from the next on", x.fits(0, 0, 1, 16, LAIN), 0);
+    }
+
+    static void promise24TheFirstItemIsBehindTheNextNight() {
+        WakeLet x = open("l5,1;w5,1;o0,1,0;");
+        fill(x, 0, 0, 1, 0);
+        due("he rests now", x.count(4), 1);
+        due("as now", x.fits(0, 0, 0, 1, LAIN), 0);
+        due("as behind the next", x.fits(0, 0, 1, 1, LAIN), 33);
+    }
+
+    static void promise24ItGoesFromThisNightOn() {
+        String text = "l0,0;w8,1;w20,1;g4,1,0;";
+        for (int t = 0; t < 4; t++) {
+            WakeLet x = open(text);
+            passNights(x, t);
+            fill(x, 0, 0, seen(text, t, 5));
+            due("from night " + t, x.fits(0, 0, 0, 5, SORTS) & 16, 16);
+        }
+        WakeLet y = open(READER);
+        passNights(y, 999);
+        y.row(0, 0, 16);
+        due("from night 999, behind 10 nights yet 9 of 99", y.fits(0, 0, 0, 10, LAIN), 63);
+        due("from night 999, behind 11", y.fits(0, 0, 0, 11, LAIN), 32);
+    }
+
+    static void promise24OthersAreLetAsTheyAre() {
+        WakeLet x = open("l0,1;w8,1;w8,2;o9,1,0;o9,2,1;");
+        fill(x, 0, 0, 3);
+        due("the first to the first", x.fits(0, 0, 0, 1, LAIN), 1);
+        due("the second to the second", x.fits(1, 0, 0, 1, LAIN), 2);
+        x.let(1, 5);
+        due("not without the other", x.fits(0, 0, 0, 1, LAIN), 0);
+    }
+
+    static void promise24NothingChanges() {
+        WakeLet x = open("l0,1;w8,1;w8,2;o4,1,0;");
+        x.row(0, 0, 3);
+        for (int what = 0; what <= 2; what++) {
+            x.fits(0, 0, 0, 3, what);
+        }
+        due("kind", x.kind(0), 1);
+        due("to whom", x.waker(0, 2), 0);
+        due("fits", x.waker(0, 1), 1);
+        due("earned", x.count(5), 0);
+        due("night", x.count(3), 0);
+        due("acts", x.count(6), 0);
+        due("weight", x.client(0, 0), 8);
     }
 }
